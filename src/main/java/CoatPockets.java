@@ -462,7 +462,7 @@ public final class CoatPockets {
         }
 
         private boolean drawsBelow(int hole) {
-            draw = draw * 1103515245 + 12345 & Integer.MAX_VALUE;
+            draw = draw * 1103515245 + 12345 & 0x7fffffff;
             return draw / 65536 % 4 < hole;
         }
 
@@ -702,7 +702,7 @@ public final class CoatPockets {
                 return NONE;
             }
             int digit = bytes[looked] - '0';
-            return within(digit, end) && digit <= 9 ? digit : NONE;
+            return within(digit, end) ? digit : NONE;
         }
 
         /** Passes such a digit. */
@@ -1008,11 +1008,10 @@ public final class CoatPockets {
             sums[0] = 0;
             most[0] = 0;
             for (int set = 1; set < 1 << many; set++) {
-                int first = Integer.numberOfTrailingZeros(set);
-                sums[set] = sums[set & set - 1] + open[first];
                 int sets = 0;
-                for (int i = first; i < many; i++) {
+                for (int i = 0; i < many; i++) {
                     if ((set >> i & 1) != 0) {
+                        sums[set] = sums[set ^ 1 << i] + open[i];
                         sets = Math.max(sets, most[set ^ 1 << i]);
                     }
                 }
