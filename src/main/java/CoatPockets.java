@@ -678,7 +678,6 @@ public final class CoatPockets {
 
         void clear() {
             length = 0;
-            looked = 0;
         }
 
         boolean atEnd() {

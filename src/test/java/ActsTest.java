@@ -42,6 +42,7 @@ final class ActsTest {
     private static void searching() {
         CoatPockets x = new CoatPockets();
         Due.school(x, "0h3,1h3");
+        linings();
         for (int t = 0; t < 4; t++) {
             x.thing(t == 2 ? 2 : 0, t == 3 ? 1 : 0);
         }
@@ -64,6 +65,21 @@ final class ActsTest {
         Due.due("search(0) again", x.search(0), 0);
         Due.due("search(2)", x.search(2), -1);
         Due.due("search(-1)", x.search(-1), -1);
+    }
+
+    private static void linings() {
+        CoatPockets x = new CoatPockets();
+        Due.school(x, "0,1,2,3h3");
+        x.thing(0, 3);
+        x.put(0, 3);
+        x.seed(0);
+        Due.due("it falls", x.bell(), 1);
+        Due.due("where(0) in a lining", x.where(0), 23);
+        for (int c = 0; c < 4; c++) {
+            Due.due("of(" + c + ", 4) of linings", x.of(c, 4), c == 3 ? 1 : 0);
+            Due.due("search(" + c + ") of linings", x.search(c), c == 3 ? 1 : 0);
+        }
+        Due.due("where(0) in a pocket", x.where(0), 13);
     }
 
     private static void giving() {

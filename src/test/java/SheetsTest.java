@@ -61,6 +61,7 @@ final class SheetsTest {
         }
         Due.due("a new row", x.sheet(0, 0, 3), 3);
         Due.due("it is empty: boys are alike", x.owes(0, 0, 0, 1), -2);
+        newRows();
         int[][] bad = {{-1, 0, 0}, {4, 0, 0}, {0, -1, 0}, {0, 3, 0}, {4, 0, -1}};
         for (int[] b : bad) {
             Due.due("item(" + b[0] + ", " + b[1] + ", " + b[2] + ", 5)", x.item(b[0], b[1], b[2], 5), -1);
@@ -73,6 +74,28 @@ final class SheetsTest {
         }
         x.sheet(3, 1, 0);
         Due.due("item of an empty row", x.item(3, 1, 0, 5), -13);
+    }
+
+    private static void newRows() {
+        for (int s = 0; s < 4; s++) {
+            CoatPockets x = new CoatPockets();
+            x.sheet(s, 2, 24);
+            for (int i = 0; i < 24; i++) {
+                x.item(s, 2, i, 9);
+            }
+            x.sheet(s, 2, 24);
+            for (int i = 0; i < 24; i += 3) {
+                x.item(s, 2, i, 1);
+                Due.due("owes(" + s + ", 2, " + i + ", 1) of a new row", x.owes(s, 2, i, 1), 0);
+                x.item(s, 2, i, 0);
+                x.item(s, 2, i + 1, 1);
+                Due.due("owes(" + s + ", 2, " + i + ", 1) of it again", x.owes(s, 2, i, 1), 0);
+            }
+            x.drop(s);
+            x.sheet(s, 0, 3);
+            x.item(s, 0, 0, 1);
+            Due.due("a new row behind a drop", x.owes(s, 0, 0, 1), 0);
+        }
     }
 
     private static void films() {

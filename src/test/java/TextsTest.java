@@ -112,6 +112,15 @@ final class TextsTest {
         Due.due("the draw stays", x.seed(1), 12345);
         Due.due("the first wears it", x.of(0, 0), 5);
         Due.due("other coats are gone", x.of(1, 0), -1);
+        Due.school(x, "6h1,321h2");
+        x.put(4, 0);
+        Due.due("where(4) in the first pocket", x.where(4), 10);
+        Due.school(x, "4");
+        Due.due("where(4) out of the first pocket", x.where(4), 0);
+        Due.due("a coat behind those of the school", x.coat(5, 1, 0), 1);
+        Due.due("it has one boy", x.of(1, 1), 1);
+        Due.due("it is his", x.of(1, 0), 5);
+        Due.due("it has no hole", x.of(1, 2), 0);
     }
 
     private static void dayFaults() {

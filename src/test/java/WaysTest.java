@@ -90,6 +90,7 @@ final class WaysTest {
         Due.due("by both without a hole", x.soonest(0, 1, 0, 1), 3);
         Due.due("by the fourth alone", x.soonest(1, 2, 0, 1), 8);
         Due.due("to himself", x.soonest(1, 1, 0, 1), 0);
+        Due.due("to himself, who wears some", x.soonest(0, 0, 0, 1), 0);
         Due.due("by none", x.soonest(0, 3, 0, 1), -4);
         // 2 wears the second coat too, but in its pocket it can't be.
         CoatPockets y = of("02,32");
@@ -113,6 +114,10 @@ final class WaysTest {
         order(y, 0, 5, 3, 1, 5, 3, 4, -4);
         order(y, 1, 5, 3, 1, 5, 3, -4, -4);
         order(y, 2, 5, 1, 2, 1, 4, -4, -4);
+        CoatPockets down = of("10,7632,5210");
+        order(down, 0, 5, 5, 0, 0, 1, -4, -4);
+        order(down, 1, 5, 5, 0, 2, 3, 6, 7);
+        order(down, 2, 3, 3, 0, 0, 1, 2, 5);
         CoatPockets one = of("4");
         order(one, 0, 4, 4, 0, 4, -4, -4, -4);
         CoatPockets torn = of("01h1");
