@@ -85,11 +85,15 @@ final class SheetsTest {
             }
             x.sheet(s, 2, 24);
             for (int i = 0; i < 24; i += 3) {
-                x.item(s, 2, i, 1);
-                Due.due("owes(" + s + ", 2, " + i + ", 1) of a new row", x.owes(s, 2, i, 1), 0);
-                x.item(s, 2, i, 0);
                 x.item(s, 2, i + 1, 1);
-                Due.due("owes(" + s + ", 2, " + i + ", 1) of it again", x.owes(s, 2, i, 1), 0);
+                Due.due("owes(" + s + ", 2, " + i + ", 1) of a new row", x.owes(s, 2, i, 1), 0);
+                x.item(s, 2, i, 2);
+                x.item(s, 2, i + 2, 5);
+            }
+            x.sheet(s, 2, 24);
+            for (int i = 0; i < 24; i += 3) {
+                x.item(s, 2, i, 1);
+                Due.due("owes(" + s + ", 2, " + i + ", 1) of a newer row", x.owes(s, 2, i, 1), 0);
             }
             x.drop(s);
             x.sheet(s, 0, 3);
