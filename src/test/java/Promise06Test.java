@@ -56,6 +56,25 @@ final class Promise06Test {
         Due.due("of(1, 4) of none", x.of(1, 4), 0);
     }
 
+    @Says({"3 THINGS in its POCKET", "4 in its LINING (sets)"})
+    static void promise6PocketsAndLiningsOfEachCoat() {
+        for (int c = 0; c < 4; c++) {
+            CoatPockets x = Due.of("0h3,0h3,0h3,0h3", 0, 0, 0, 0);
+            x.put(1, c);
+            x.put(2, c);
+            for (int other = 0; other < 4; other++) {
+                Due.due("of(" + other + ", 3), it is in " + c, x.of(other, 3), other == c ? 6 : 0);
+                Due.due("of(" + other + ", 4), it is in " + c, x.of(other, 4), 0);
+            }
+            x.seed(0);
+            Due.due("bell()", x.bell(), 2);
+            for (int other = 0; other < 4; other++) {
+                Due.due("of(" + other + ", 3), it fell in " + c, x.of(other, 3), 0);
+                Due.due("of(" + other + ", 4), it fell in " + c, x.of(other, 4), other == c ? 6 : 0);
+            }
+        }
+    }
+
     @Says({"5 .. 8 the BOYS of its TURN (NONE: not so many).", "NONE -4 (as told)"})
     static void promise6NoneNotSoMany() {
         CoatPockets x = Due.of("7,60,501,4012");

@@ -210,6 +210,20 @@ final class Promise09Test {
         Due.due("the draw stays", x.seed(1), 1406932606);
     }
 
+    @Says("THINGS in POCKETS, in LININGS are in the HANDS of BOY 0.")
+    static void promise9ThingsOfEachOldCoat() {
+        for (int c = 0; c < 4; c++) {
+            CoatPockets x = Due.of("5h3,5h3,5h3,5h3", 5, 0, 0, 0);
+            x.put(0, c);
+            x.seed(0);
+            Due.due("bell()", x.bell(), 1);
+            x.put(1, c);
+            Due.places("ahead", x, 20 + c, 10 + c, 5);
+            Due.due("school", Due.school(x, "5,5,5,5"), 4);
+            Due.places("behind", x, 0, 0, 5);
+        }
+    }
+
     @Says("the first of it WEARS the COAT at first")
     static void promise9FirstWearsAtFirst() {
         CoatPockets x = Due.of("012,3456");

@@ -71,7 +71,22 @@ final class Promise15Test {
         not("the other wears it later", "02,1", 0, 2);
         not("the giver wears it later", "02,1", 2, 0);
         not("neither wears any", "0,1", 6, 7);
+        not("the first boy wears none", "1,2", 1, 0);
+        not("the first boy has it, and wears none", "1,2", 0, 1);
+        not("the first boy wears it later", "10,2,30,45", 2, 0);
         not("no coats at all", "", 0, 1);
+    }
+
+    @Says("one of both WEARS no COAT.")
+    static void promise15NotToWhoWoreACoatOfAnEarlierSchool() {
+        CoatPockets x = Due.of("1,2,3,4", 1, 0);
+        Due.school(x, "1");
+        for (int boy = 0; boy < 8; boy++) {
+            Due.due("give(0, " + boy + ")", x.give(0, boy), -2);
+        }
+        Due.school(x, "1,2");
+        Due.due("give(0, 2)", x.give(0, 2), 1);
+        Due.due("give(0, 3)", x.give(0, 3), -2);
     }
 
     @Says("if both WEAR a COAT now.")

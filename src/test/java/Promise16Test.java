@@ -97,6 +97,26 @@ final class Promise16Test {
         Due.due("12345 by 65536 is 0", x.bell(), 1);
     }
 
+    @Says({"by 65536 (cut)", "as a remainder by 4"})
+    static void promise16DrawsAtTheirEdges() {
+        // A seed, the draw that comes behind it, and what remains of that.
+        int[][] edges = {
+            {2088216195, 0, 0}, {2032319262, 65535, 0}, {1742513795, 65536, 1}, {1686616862, 131071, 1},
+            {1396811395, 131072, 2}, {1340914462, 196607, 2}, {1051108995, 196608, 3}, {995212062, 262143, 3},
+            {705406595, 262144, 0}, {1323542147, 2147221504, 0}, {576240414, 2147418111, 2}, {286434947, 2147418112, 3},
+            {230538014, 2147483647, 3}
+        };
+        for (int[] edge : edges) {
+            for (int hole = 1; hole <= 3; hole++) {
+                CoatPockets x = Due.of("0h" + hole, 0, 0);
+                x.put(0, 0);
+                x.seed(edge[0]);
+                Due.due("draw " + edge[1] + ", hole " + hole, x.bell(), edge[2] < hole ? 1 : 0);
+                Due.due("the draw", x.seed(1), edge[1]);
+            }
+        }
+    }
+
     @Says("A BELL: first by THINGS' numbers, each that was in a POCKET ahead of THE BELL:")
     static void promise16DrawsByThingsNumbers() {
         CoatPockets x = Due.of("0h2,0h2", 0, 0, 0, 0);

@@ -29,6 +29,10 @@ final class Promise18Test {
             soonest(x, boy, boy, 255, 0, 0);
         }
         soonest(new CoatPockets(), 7, 7, 0, 0, 0);
+        // What came to another one ahead of it does not count.
+        soonest(x, 0, 1, 0, 1, 1);
+        soonest(x, 0, 0, 0, 0, 0);
+        soonest(x, 1, 1, 0, 0, 0);
     }
 
     @Says("NONE: not in 24 BELLS.")

@@ -37,8 +37,13 @@ final class Promise19Test {
         CoatPockets x = Due.of("012,31");
         dealt(x, 0, 0, 3, 2, 0, 1, 2, -4);
         dealt(x, 1, 0, 3, 2, 3, 1, -4, -4);
+        dealt(x, 0, 1, 3, 2, 0, 1, 2, -4);
+        dealt(x, 0, 2, 3, 2, 2, 1, 0, -4);
+        dealt(x, 1, 2, 1, 4, 1, 3, -4, -4);
+        dealt(x, 1, 2, 3, 5, 1, 3, -4, -4);
         x.bell();
         dealt(x, 0, 0, 3, 3, 0, 1, 2, -4);
+        dealt(Due.of("01,120"), 0, 0, 2, 4, 0, 1, -4, -4);
     }
 
     @Says("of like ones the first as a row of BOYS;")

@@ -22,6 +22,36 @@ final class Promise23Test {
         Due.due("payments() of " + java.util.Arrays.toString(balances), of(balances).payments(), want);
     }
 
+    @Says("PAYMENTS.")
+    static void promise23AsDebtsChange() {
+        CoatPockets x = of(-1, -2, 3, 0, 0, -5, 5);
+        Due.due("payments()", x.payments(), 3);
+        x.owe(0, 1, 2);
+        Due.due("payments() of -2, -1, 3 and 5", x.payments(), 3);
+        x.owe(2, 5, 3);
+        Due.due("payments() of -2, -1, -2, 5", x.payments(), 3);
+        x.owe(6, 5, 5);
+        x.owe(1, 2, 3);
+        Due.due("payments()", x.payments(), Naive.fewestPayments(balances(x), 0));
+        for (int a = 0; a < 8; a++) {
+            for (int b = 0; b < 8; b++) {
+                x.owe(a, b, 0);
+            }
+        }
+        Due.due("payments() of none", x.payments(), 0);
+        x.owe(3, 4, 9);
+        x.owe(5, 6, 9);
+        Due.due("payments() of two pairs", x.payments(), 2);
+    }
+
+    private static int[] balances(CoatPockets x) {
+        int[] balances = new int[8];
+        for (int boy = 0; boy < 8; boy++) {
+            balances[boy] = x.balance(boy);
+        }
+        return balances;
+    }
+
     @Says({"PAYMENTS.", "PAYMENTS: the fewest by which all BALANCES are paid off"})
     static void promise23NoneAreDue() {
         Due.due("of no debts", new CoatPockets().payments(), 0);

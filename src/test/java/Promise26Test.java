@@ -68,6 +68,35 @@ final class Promise26Test {
     }
 
     @Says("All is as it was then: 1.")
+    static void promise26EatenAndReadBehindTheImage() {
+        CoatPockets x = Due.of("07", 0, 1, 2);
+        x.image();
+        Due.day(x, "p0>0;p1>0;b");
+        Due.due("told(0, 2) ahead", x.told(0, 2), 0);
+        Due.due("told(1, 1) ahead", x.told(1, 1), 129);
+        Due.due("restore()", x.restore(), 1);
+        Due.due("told(0, 2): nobody", x.told(0, 2), 8);
+        Due.due("told(1, 1): nobody", x.told(1, 1), 0);
+        Due.places("then", x, 0, 0);
+    }
+
+    @Says("All is as it was then: 1.")
+    static void promise26ThingsOfOtherKindsBehindTheImage() {
+        CoatPockets x = Due.of("0");
+        x.image();
+        x.thing(1, 0);
+        x.restore();
+        Due.due("thing(2, 0)", x.thing(2, 0), 0);
+        x.image();
+        x.restore();
+        Due.due("told(0, 0)", x.told(0, 0), 2);
+        x.put(0, 0);
+        x.bell();
+        Due.due("it is no sweet", x.where(0), 10);
+        Due.due("told(0, 1)", x.told(0, 1), 1);
+    }
+
+    @Says("All is as it was then: 1.")
     static void promise26BellsDrawAndDebtsAreAsTheyWere() {
         CoatPockets x = kept();
         x.bell();

@@ -194,6 +194,24 @@ final class Promise27Test {
         Due.due("owe(0, 1, 0): neither came", x.owe(0, 1, 0), 1);
     }
 
+    @Says("MARBLES more) of a SHEET")
+    static void promise27OtherDebtsStay() {
+        CoatPockets x = new CoatPockets();
+        for (int k = 0; k < 64; k++) {
+            x.owe(k / 8, k % 8, k);
+        }
+        Rows.lay(x, 0, 2, 7, 5, 900, 2, 3, 800);
+        owes(x, 0, 2, 0, 2, 1700);
+        for (int k = 0; k < 64; k++) {
+            int more = k == 7 * 8 + 5 ? 900 : k == 2 * 8 + 3 ? 800 : 0;
+            Due.due("owe(" + k / 8 + ", " + k % 8 + ", 0)", x.owe(k / 8, k % 8, k + more), k / 8 == k % 8 ? -1 : k + more);
+        }
+        owes(x, 0, 2, 0, 1, -2);
+        owes(x, 0, 2, 3, 1, -2);
+        x.owe(7, 5, 99);
+        owes(x, 0, 2, 0, 1, 900);
+    }
+
     @Says("What is refused changes nothing, but as told.")
     static void promise27NotTheLastOfSix() {
         CoatPockets x = new CoatPockets();
