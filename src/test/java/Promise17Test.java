@@ -191,4 +191,24 @@ final class Promise17Test {
         reach(x, 0, 16, 0, 255 & ~(1 << 6));
         reach(x, 0, 17, 0, 255);
     }
+
+    @Says({"by as much PUTTING and TAKING as they like ahead of", "over a BELL it may lie in a POCKET without a HOLE alone;",
+        "in a POCKET of a COAT that a THIEF WEARS it is lost"})
+    static void promise17AsByTheActsThemselves() {
+        String[] schools = {"01,12h1,23", "0123,3h2,34,41", "012,120h3,27,72", "0314,25,513h1,40", "10,21,32,43", "6,60,0h1,05"};
+        for (int s = 0; s < schools.length * 4; s++) {
+            String school = schools[s % schools.length];
+            int ahead = s % 5;
+            int from = s % 3;
+            int thieves = s % 4 == 0 ? 0 : 1 << s % 8 | 1 << s % 7;
+            Tries tries = new Tries(school, ahead, from, thieves, Tries.NOBODY, 12);
+            CoatPockets x = Due.of(school);
+            for (int k = 0; k < ahead; k++) {
+                x.bell();
+            }
+            for (int n = 0; n <= 12; n++) {
+                reach(x, from, n, thieves, tries.hands(n));
+            }
+        }
+    }
 }

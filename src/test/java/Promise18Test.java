@@ -162,4 +162,37 @@ final class Promise18Test {
         x.soonest(0, 2, 2, 2);
         Due.unchanged("soonest", x, was);
     }
+
+    @Says({"in whose POCKETS it can be then", "without its having been in his HANDS"})
+    static void promise18AsByTheActsThemselves() {
+        String[] schools = {"01,12,201h1,013", "0123,03,34,41", "012,120,102,210", "0314,25,513,40", "10,21,32,43"};
+        for (int s = 0; s < schools.length * 7; s++) {
+            String school = schools[s % schools.length];
+            int to = 1 + s % 7;
+            int thieves = s % 3 == 0 ? 0 : 1 << (to + s) % 8;
+            Tries all = new Tries(school, 0, 0, thieves, Tries.NOBODY, 24);
+            int bells = 0;
+            while (bells <= 24 && !all.has(to, bells)) {
+                bells++;
+            }
+            if (bells > 24) {
+                soonest(Due.of(school), 0, to, thieves, -4, -4);
+                continue;
+            }
+            soonest(Due.of(school), 0, to, thieves, bells, via(school, thieves, to, bells));
+        }
+    }
+
+    private static int via(String school, int thieves, int to, int bells) {
+        Tries past = new Tries(school, 0, 0, thieves, to, bells);
+        CoatPockets x = Due.of(school);
+        for (int k = 0; k < bells; k++) {
+            x.bell();
+        }
+        int via = 0;
+        for (int c = 0; c < x.count(0); c++) {
+            via |= past.has(10 + c, bells) && x.of(c, 0) == to ? 1 << c : 0;
+        }
+        return via;
+    }
 }
